@@ -869,6 +869,11 @@ public final class BurstBounds {
         }
 
         boolean hasRing() {
+            return orderNodes() < NODES;
+        }
+
+        /** Puts nodes in order, each behind all that are ahead of it; how many could be put so. */
+        private int orderNodes() {
             noteAhead();
             int placed = 0;
             int count = 0;
@@ -883,7 +888,7 @@ public final class BurstBounds {
                     }
                 }
             }
-            return count < NODES;
+            return count;
         }
 
         /** Of each node the bits of the nodes ahead of it. */
@@ -899,7 +904,7 @@ public final class BurstBounds {
         /** Whether there are bounds: no ring, a stair at each node of a way, each wait ends. */
         boolean isBounded() {
             if (!isFresh) {
-                bounded = !hasRing() && isServedOnWays() && workOut();
+                bounded = orderNodes() == NODES && isServedOnWays() && workOut();
                 isFresh = true;
             }
             return bounded;
@@ -916,7 +921,7 @@ public final class BurstBounds {
             return true;
         }
 
-        /** Goes through the nodes in order; whether each wait ends. */
+        /** Goes through the nodes as they were put in order; whether each wait ends. */
         private boolean workOut() {
             for (int p = 0; p < NODES; p++) {
                 for (int w = 0; w < flows; w++) {

@@ -21,6 +21,9 @@ public final class NetworkTest {
         promise19();
         promise20();
         workedOutAnew();
+        fullNetwork(RANKS);
+        fullNetwork(ANYHOW);
+        fullNetwork(FIRST_COME);
         CHECK.end();
     }
 
@@ -276,6 +279,7 @@ public final class NetworkTest {
         due("19 no stair", x.heapAt(2), STATE);
         x.serve(2, 0);
         due("19 nothing comes", x.heapAt(2), 0);
+        due("19 the last node", x.heapAt(5), STATE);
         due("19 above", x.heapAt(6), UNKNOWN);
         due("19 below", x.heapAt(-1), UNKNOWN);
         x.serve(1, NONE);
@@ -337,5 +341,40 @@ public final class NetworkTest {
         due("anew served by another", x.latest(1, 0), 4);
         x.serve(1, NONE);
         due("anew served by none", x.latest(1, 0), STATE);
+    }
+
+    /** Five FLOWS of b1r1 over the same four NODES, each of l1r100: each NODE adds a wait of 1. */
+    private static void fullNetwork(int rule) {
+        BurstBounds x = new BurstBounds();
+        int own = x.bucket(1, 1);
+        int served = x.late(1, 100);
+        int[] way = {5, 3, 0, 1};
+        x.rule(rule);
+        for (int w = 0; w < 5; w++) {
+            Desk.flow(x, own, way);
+        }
+        for (int v : way) {
+            due("full not yet " + v, x.latest(4, 3), STATE);
+            x.serve(v, served);
+        }
+        for (int w = 0; w < 5; w++) {
+            String name = "full, rule " + rule + ", flow " + w;
+            int others = rule == RANKS ? w : rule == ANYHOW ? 4 : 0;
+            for (int k = 0; k < 4; k++) {
+                due(name + " latest " + k, x.latest(w, k), 1);
+                due(name + " comes " + k, x.there(w, k, 0, 9), 1 + k + 9);
+                due(name + " has " + k, x.there(w, k, 1, 9), 800 - others * (1 + k + 9));
+                due(name + " has none " + k, x.there(w, k, 1, 1), 0);
+                due(name + " goes on " + k, x.there(w, k, 2, 9), 2 + k + 9);
+            }
+            due(name + " by nodes", x.bound(w, 0), 4);
+            due(name + " at once", x.bound(w, 1), rule == FIRST_COME ? STATE : 4);
+            due(name + " no fifth place", x.latest(w, 4), UNKNOWN);
+            due(name + " no fifth node", x.ofFlow(w, 14), OUTSIDE);
+        }
+        for (int k = 0; k < 4; k++) {
+            due("full heap " + k, x.heapAt(way[k]), 5 * (2 + k));
+        }
+        due("full no ring", x.ring(), 0);
     }
 }

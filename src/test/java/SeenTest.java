@@ -82,6 +82,9 @@ public final class SeenTest {
         due("22 the greatest s", x.keeps(0, 1), 302);
         Desk.see(x, 8, 0, 4, 6);
         due("22 from far back", x.keeps(0, 1), 400);
+        Desk.see(x, 9);
+        due("22 at tick 1", x.keeps(0, 1), 100);
+        due("22 at tick 1 alone", x.keeps(0, 0), 0);
         int[] last = new int[40];
         last[39] = 9;
         Desk.see(x, last);

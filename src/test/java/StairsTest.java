@@ -108,6 +108,7 @@ public final class StairsTest {
         due("2 a number below", x.steps(0, 1, 3, 1), OUTSIDE);
         due("2 forty one", Desk.steps(x, new int[41]), OUTSIDE);
         due("2 nothing was made", x.many(0), 0);
+        due("2 one too many", x.steps(0, 1, 0, 3), OUTSIDE);
         due("2 good ones of it", x.steps(0, 1, 0, 2), 0);
         BurstBounds full = Desk.fullOfStairs();
         due("2 outside ahead of full", Desk.steps(full, 1000), OUTSIDE);
@@ -288,6 +289,7 @@ public final class StairsTest {
         x.late(2, 7);
         due("7 least", x.make(0, 0, 1), 2);
         rowIs("7 least", x, 2, 0, 0, 0, 7, 14, 20, 23);
+        due("7 least at 40", x.at(2, 40), 125);
         due("7 sum", x.make(1, 0, 1), 3);
         rowIs("7 sum", x, 3, 0, 8, 11, 21, 31);
         due("7 along", x.make(2, 0, 1), 4);
