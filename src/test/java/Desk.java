@@ -1,3 +1,5 @@
+import java.util.Arrays;
+
 /** Fills sheets, so that a test can tell a row or a text in one line. */
 final class Desk {
     private Desk() {
@@ -36,6 +38,18 @@ final class Desk {
     static int see(BurstBounds x, int... numbers) {
         row(x, 3, 2, numbers);
         return x.see(3, 2, 0, numbers.length);
+    }
+
+    /** A STAIR that is 0 till TICK t less 1, and much from t on. */
+    static int from(BurstBounds x, int t, int much) {
+        return x.move(0, x.bucket(much, 0), t - 1);
+    }
+
+    /** A row of n numbers, each the same. */
+    static int[] numbers(int n, int each) {
+        int[] row = new int[n];
+        Arrays.fill(row, each);
+        return row;
     }
 
     /** An object that has 24 STAIRS. */

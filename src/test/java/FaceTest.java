@@ -8,6 +8,7 @@ import java.lang.reflect.Modifier;
 import java.nio.charset.StandardCharsets;
 import java.nio.file.Files;
 import java.nio.file.Path;
+import java.util.List;
 import java.util.Set;
 import java.util.TreeSet;
 import java.util.regex.Matcher;
@@ -17,10 +18,6 @@ import java.util.regex.Pattern;
 public final class FaceTest {
     private static final Check CHECK = new Check("FaceTest");
     private static final Path SOURCE = Path.of("src/main/java/BurstBounds.java");
-
-    private static final String METHODS = "steps4 bucket2 late2 text4 at2 make3 move3 delay2 heap2 within2 serve2 "
-            + "flow5 ofFlow2 rule1 ring0 latest2 there4 heapAt1 bound2 see4 keeps2 burst1 shape2 letIn3 sheet3 "
-            + "lose1 put3 cell3 copy5 tell1 draw1 as2 trace0 fault0 many1";
 
     public static void main(String[] args) throws IOException {
         constants();
@@ -56,7 +53,7 @@ public final class FaceTest {
                 CHECK.holds(m + " takes ints", p == int.class);
             }
         }
-        CHECK.holds("the face " + face, face.equals(new TreeSet<>(Set.of(METHODS.split(" ")))));
+        CHECK.holds("the face " + face, face.equals(new TreeSet<>(Set.of(Calls.FACE.split(" ")))));
         Constructor<?>[] constructors = c.getDeclaredConstructors();
         CHECK.due("constructors", constructors.length, 1);
         CHECK.holds("its constructor", constructors[0].getModifiers() == Modifier.PUBLIC
@@ -72,10 +69,7 @@ public final class FaceTest {
     }
 
     private static void inside() {
-        Set<String> names = new TreeSet<>();
-        for (String method : METHODS.split(" ")) {
-            names.add(method.substring(0, method.length() - 1));
-        }
+        List<String> names = Calls.names();
         Class<?>[] classes = BurstBounds.class.getDeclaredClasses();
         CHECK.holds("at most twelve classes", classes.length < 12);
         ofClass(BurstBounds.class);

@@ -186,7 +186,7 @@ final class PlainModel {
     private static final Pattern NUMBER = Pattern.compile("([blr])(\\d{1,4})");
 
     /** The place of the first fault; -1 of a text. */
-    private static int firstFault(String codes) {
+    static int firstFault(String codes) {
         int sound = 0;
         while (sound < codes.length() && goesOn(codes.substring(0, sound + 1))) {
             sound++;

@@ -1,6 +1,5 @@
 import java.util.ArrayList;
 import java.util.Arrays;
-import java.util.HashMap;
 import java.util.List;
 import java.util.Map;
 import java.util.Random;
@@ -12,21 +11,7 @@ public final class RandomRunsTest {
     private static final int RUNS = 600;
     private static final int CALLS = 512;
 
-    private static final Map<String, Integer> ARGUMENTS = new HashMap<>();
-    private static final String[] NAMES;
-
-    static {
-        String face = "steps4 bucket2 late2 text4 at2 make3 move3 delay2 heap2 within2 serve2 flow5 ofFlow2 "
-                + "rule1 ring0 latest2 there4 heapAt1 bound2 see4 keeps2 burst1 shape2 letIn3 sheet3 lose1 "
-                + "put3 cell3 copy5 tell1 draw1 as2 trace0 fault0 many1";
-        List<String> names = new ArrayList<>();
-        for (String call : face.split(" ")) {
-            String name = call.substring(0, call.length() - 1);
-            names.add(name);
-            ARGUMENTS.put(name, call.charAt(call.length() - 1) - '0');
-        }
-        NAMES = names.toArray(new String[0]);
-    }
+    private static final String[] NAMES = Calls.names().toArray(new String[0]);
 
     private final Random random;
     private final BurstBounds real = new BurstBounds();
@@ -240,7 +225,7 @@ public final class RandomRunsTest {
         if ((name.equals("serve") || name.equals("sheet") || name.equals("lose")) && random.nextInt(3) != 0) {
             name = "there";
         }
-        int[] a = new int[ARGUMENTS.get(name)];
+        int[] a = new int[Calls.numbersOf(name)];
         for (int i = 0; i < a.length; i++) {
             a[i] = argument(name, i);
         }
@@ -289,56 +274,15 @@ public final class RandomRunsTest {
             return;
         }
         left--;
-        long got = real(name, a);
+        long got = Calls.make(real, name, a);
         long want = model.call(name, a);
-        String told = name + Arrays.toString(a);
+        String told = Calls.told(name, a);
         story.append(told).append(" -> ").append(want).append('\n');
         answered.merge(name + " " + (want >= 0 ? "fine" : want <= -100 ? "-100" : "" + want), 1, Integer::sum);
         same = got == want;
         CHECK.due("run " + run + ": " + told, got, want);
         if (!same) {
             System.out.println(story);
-        }
-    }
-
-    private long real(String name, int[] a) {
-        switch (name) {
-            case "steps": return real.steps(a[0], a[1], a[2], a[3]);
-            case "bucket": return real.bucket(a[0], a[1]);
-            case "late": return real.late(a[0], a[1]);
-            case "text": return real.text(a[0], a[1], a[2], a[3]);
-            case "at": return real.at(a[0], a[1]);
-            case "make": return real.make(a[0], a[1], a[2]);
-            case "move": return real.move(a[0], a[1], a[2]);
-            case "delay": return real.delay(a[0], a[1]);
-            case "heap": return real.heap(a[0], a[1]);
-            case "within": return real.within(a[0], a[1]);
-            case "serve": return real.serve(a[0], a[1]);
-            case "flow": return real.flow(a[0], a[1], a[2], a[3], a[4]);
-            case "ofFlow": return real.ofFlow(a[0], a[1]);
-            case "rule": return real.rule(a[0]);
-            case "ring": return real.ring();
-            case "latest": return real.latest(a[0], a[1]);
-            case "there": return real.there(a[0], a[1], a[2], a[3]);
-            case "heapAt": return real.heapAt(a[0]);
-            case "bound": return real.bound(a[0], a[1]);
-            case "see": return real.see(a[0], a[1], a[2], a[3]);
-            case "keeps": return real.keeps(a[0], a[1]);
-            case "burst": return real.burst(a[0]);
-            case "shape": return real.shape(a[0], a[1]);
-            case "letIn": return real.letIn(a[0], a[1], a[2]);
-            case "sheet": return real.sheet(a[0], a[1], a[2]);
-            case "lose": return real.lose(a[0]);
-            case "put": return real.put(a[0], a[1], a[2]);
-            case "cell": return real.cell(a[0], a[1], a[2]);
-            case "copy": return real.copy(a[0], a[1], a[2], a[3], a[4]);
-            case "tell": return real.tell(a[0]);
-            case "draw": return real.draw(a[0]);
-            case "as": return real.as(a[0], a[1]);
-            case "trace": return real.trace();
-            case "fault": return real.fault();
-            case "many": return real.many(a[0]);
-            default: throw new IllegalStateException(name);
         }
     }
 }
