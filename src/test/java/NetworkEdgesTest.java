@@ -33,6 +33,7 @@ public final class NetworkEdgesTest {
         boundsOfOneNode();
         atOnceWithoutAnEnd();
         nodesInAnyOrder();
+        lessThanBefore();
         CHECK.end();
     }
 
@@ -596,5 +597,35 @@ public final class NetworkEdgesTest {
                 due("comes at the third", x.heapAt(way[2]), 4 + 3);
             }
         }
+    }
+
+    /** What was worked out once leaves nothing behind, where it becomes less by what is SERVED, or by the RULE. */
+    private static void lessThanBefore() {
+        for (int rule = RANKS; rule <= FIRST_COME; rule++) {
+            BurstBounds x = served();
+            int slow = x.late(9, 50);
+            Desk.flow(x, 0, 2, 3);
+            x.rule(rule);
+            int[] stairs = {1, slow, 1};
+            int[] waits = {1, 9, 1};
+            for (int i = 0; i < stairs.length; i++) {
+                String told = "rule " + rule + ", change " + i;
+                x.serve(2, stairs[i]);
+                due(told + ": latest", x.latest(0, 0), waits[i]);
+                for (int t = 1; t <= 40; t++) {
+                    due(told + ": goes on at " + t, x.there(0, 0, 2, t), Math.min(1 + t + waits[i], 41));
+                    due(told + ": comes on at " + t, x.there(0, 1, 0, t), Math.min(1 + t + waits[i], 41));
+                }
+                due(told + ": heap at the next", x.heapAt(3), 2 + waits[i]);
+            }
+        }
+        BurstBounds x = served();
+        Desk.flow(x, 0, 2, 3);
+        Desk.flow(x, 0, 2);
+        x.serve(2, x.late(1, 3));
+        x.rule(ANYHOW);
+        due("anyhow: goes on at 1", x.there(0, 0, 2, 1), 4);
+        x.rule(RANKS);
+        due("ranks: goes on at 1", x.there(0, 0, 2, 1), 3);
     }
 }
